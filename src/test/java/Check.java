@@ -35,10 +35,17 @@ final class Check {
         try {
             call.run();
         } catch (RuntimeException e) {
-            got = e.getClass().getName();
+            got = thrown(e);
         }
         same(what + " throws", got, due.getName());
         same(what + " and the state", state(line), before);
+    }
+
+    /** The class of what was thrown, and who threw it if the program's own throw did not. */
+    static String thrown(RuntimeException e) {
+        StackTraceElement[] trace = e.getStackTrace();
+        boolean own = trace.length > 0 && trace[0].getClassName().startsWith("TaktLine");
+        return own ? e.getClass().getName() : e + " by the machine or the library";
     }
 
     static void refusesIndex(String what, TaktLine line, Runnable call) {

@@ -22,6 +22,7 @@ public final class ImagesTest {
         fitLooksAtSoftwareAlone();
         theTestLooksAtFitAlone();
         theImageMustBeForWhatIsInNow();
+        aCarThatNeedsNothingIsTestedToo();
         aCarThatLeftCanBeUnfit();
         atLargeCountsCarsOnce();
         questionsRefuse();
@@ -352,6 +353,22 @@ public final class ImagesTest {
         line.takt(1);
         line.flash(0, 0);
         Check.same("the image before is for it", line.isFit(0), true);
+    }
+
+    private static void aCarThatNeedsNothingIsTestedToo() {
+        TaktLine line = new TaktLine();
+        line.order(0);
+        Check.same("not tested when it is ordered", line.isTested(0), false);
+        Check.same("not fit without an image", line.isFit(0), false);
+        line.takt(6);
+        Check.same("at the station 5", line.stationOf(0), 5);
+        Check.same("not tested there", line.isTested(0), false);
+        flashSigned(line, 0);
+        Check.same("fit with an image for nothing", line.isFit(0), true);
+        Check.same("not tested by being fit", line.isTested(0), false);
+        line.takt(1);
+        Check.same("tested", line.isTested(0), true);
+        Check.same("it leaves", line.takt(2), 1);
     }
 
     private static void aCarThatLeftCanBeUnfit() {
