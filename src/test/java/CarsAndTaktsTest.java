@@ -1,8 +1,5 @@
 /** Promises 6 to 12: order, takt, fault, takts, whereIs, stationOf, carAt. */
 public final class CarsAndTaktsTest {
-    private static final int MIN = Integer.MIN_VALUE;
-    private static final int MAX = Integer.MAX_VALUE;
-
     public static void main(String[] args) {
         orderGivesNumbers();
         orderRefuses();
@@ -12,16 +9,12 @@ public final class CarsAndTaktsTest {
         taktCountsThoseThatLeave();
         aCarGoesAlongTheLine();
         carsMoveTogether();
-        carsComeByNumberAndOneATakt();
-        aCarWaitsForItsParts();
-        aCarWaitsForItsImage();
         aCarThatWaitsHoldsBackOthers();
         lackingAtALowerStationLeadsToTheLane();
         lackingHereOrLaterDoesNot();
         theLowestSuchStationIsTaken();
         aCarMayComeBackInTheSameTakt();
         theLaneKeepsItsOrder();
-        theLaneLetsOthersPass();
         laneCarsChangePlaces();
         theLaneGoesAheadOfOrders();
         laneThenLowerStation();
@@ -37,86 +30,40 @@ public final class CarsAndTaktsTest {
         Check.end();
     }
 
-    /** Kind 0 is fitted at the station 0, and every car needs it; nothing has software. */
-    private static TaktLine plainLine(int cars) {
-        TaktLine line = new TaktLine();
-        line.kind(0, 0, 0, 0, false);
-        line.lot(0, 1, 50);
-        for (int c = 0; c < cars; c++) {
-            line.order(0);
-        }
-        return line;
-    }
-
-    /** The kind k is fitted at the station k, for k from 0 to 4; the lot k is of the kind k. */
-    private static TaktLine fullLine(int cars) {
-        TaktLine line = new TaktLine();
-        for (int k = 0; k < 5; k++) {
-            line.kind(k, k, 0, 0, false);
-            line.lot(k, 1, 50);
-        }
-        for (int c = 0; c < cars; c++) {
-            line.order(0);
-        }
-        return line;
-    }
-
-    private static void flashSigned(TaktLine line, int car) {
-        int image = line.build(car);
-        line.sign(image, car);
-        line.flash(car, image);
-    }
-
-    private static void at(TaktLine line, int car, int where, int station) {
-        Check.same("whereIs(" + car + ") after " + line.takts(), line.whereIs(car), where);
-        Check.same("stationOf(" + car + ") after " + line.takts(), line.stationOf(car), station);
-        if (where == TaktLine.ON_LINE) {
-            Check.same("carAt(" + station + ") after " + line.takts(), line.carAt(station), car);
-        }
-    }
-
-    private static void onLine(TaktLine line, int car, int station) {
-        at(line, car, TaktLine.ON_LINE, station);
-    }
-
-    private static void inLane(TaktLine line, int car, int station) {
-        at(line, car, TaktLine.LANE, station);
-    }
-
     private static void orderGivesNumbers() {
         TaktLine line = new TaktLine();
         Check.same("first car", line.order(0), 0);
         Check.same("second car", line.order(255), 1);
         line.takt(3);
         Check.same("third car", line.order(128), 2);
-        at(line, 2, TaktLine.ORDERED, TaktLine.NONE);
+        Lines.ordered(line, 2);
     }
 
     private static void orderRefuses() {
         TaktLine line = new TaktLine();
-        for (int options : new int[] {-1, 256, MIN, MAX}) {
+        for (int options : new int[] {-1, 256, Lines.MIN, Lines.MAX}) {
             Check.refusesArgument("order " + options, line, () -> line.order(options));
         }
         Check.same("the first car after them", line.order(0), 0);
     }
 
     private static void ordersUpToThirty() {
-        TaktLine line = plainLine(0);
+        TaktLine line = Lines.plain(0);
         for (int c = 0; c < 30; c++) {
             Check.same("order", line.order(c), c);
         }
         Check.refusesState("car 30", line, () -> line.order(0));
         Check.refusesArgument("options at car 30", line, () -> line.order(256));
         line.takt(6);
-        flashSigned(line, 0);
+        Lines.flashSigned(line, 0);
         Check.same("one leaves", line.takt(3), 1);
         Check.refusesState("car 30 with one that left", line, () -> line.order(0));
         Check.same("needs of car 29", line.needs(29), 1);
     }
 
     private static void taktRefuses() {
-        TaktLine line = plainLine(2);
-        for (int takts : new int[] {-1, 0, 21, MIN, MAX}) {
+        TaktLine line = Lines.plain(2);
+        for (int takts : new int[] {-1, 0, 21, Lines.MIN, Lines.MAX}) {
             Check.refusesArgument("takt " + takts, line, () -> line.takt(takts));
         }
         Check.same("takts after them", line.takts(), 0);
@@ -132,115 +79,76 @@ public final class CarsAndTaktsTest {
     }
 
     private static void taktCountsThoseThatLeave() {
-        TaktLine line = plainLine(3);
+        TaktLine line = Lines.plain(3);
         line.takt(6);
         int left = 0;
         for (int c = 0; c < 3; c++) {
-            flashSigned(line, c);
+            Lines.flashSigned(line, c);
             left += line.takt(1);
         }
         Check.same("one in three takts", left, 1);
         Check.same("two in twenty", line.takt(20), 2);
         for (int c = 0; c < 3; c++) {
-            at(line, c, TaktLine.LEFT, TaktLine.NONE);
+            Lines.left(line, c);
         }
         Check.same("no more", line.takt(20), 0);
     }
 
     private static void aCarGoesAlongTheLine() {
-        TaktLine line = fullLine(1);
+        TaktLine line = Lines.full(1);
         for (int s = 0; s < 6; s++) {
             Check.same("none leaves", line.takt(1), 0);
-            onLine(line, 0, s);
+            Lines.onLine(line, 0, s);
             Check.same("lacks at " + s, line.lacks(0), s < 5 ? 31 & ~((2 << s) - 1) : 0);
         }
-        flashSigned(line, 0);
+        Lines.flashSigned(line, 0);
         line.takt(1);
-        onLine(line, 0, 6);
+        Lines.onLine(line, 0, 6);
         Check.same("tested when it comes", line.isTested(0), true);
         line.takt(1);
-        onLine(line, 0, 7);
+        Lines.onLine(line, 0, 7);
         Check.same("it leaves", line.takt(1), 1);
-        at(line, 0, TaktLine.LEFT, TaktLine.NONE);
+        Lines.left(line, 0);
         Check.same("carAt(7)", line.carAt(7), TaktLine.NONE);
     }
 
     private static void carsMoveTogether() {
-        TaktLine line = plainLine(5);
+        TaktLine line = Lines.plain(5);
         line.takt(5);
         for (int c = 0; c < 5; c++) {
-            onLine(line, c, 4 - c);
+            Lines.onLine(line, c, 4 - c);
         }
         line.takt(1);
         for (int c = 0; c < 5; c++) {
-            onLine(line, c, 5 - c);
+            Lines.onLine(line, c, 5 - c);
         }
         Check.same("carAt(0)", line.carAt(0), TaktLine.NONE);
     }
 
-    private static void carsComeByNumberAndOneATakt() {
-        TaktLine line = plainLine(3);
-        for (int c = 0; c < 3; c++) {
-            line.takt(1);
-            onLine(line, c, 0);
-            for (int later = c + 1; later < 3; later++) {
-                at(line, later, TaktLine.ORDERED, TaktLine.NONE);
-            }
-        }
-    }
-
-    private static void aCarWaitsForItsParts() {
-        TaktLine line = new TaktLine();
-        line.kind(0, 2, 0, 0, false);
-        line.order(0);
-        line.takt(3);
-        onLine(line, 0, 2);
-        line.takt(5);
-        onLine(line, 0, 2);
-        line.lot(0, 1, 1);
-        line.takt(1);
-        onLine(line, 0, 2);
-        Check.same("it is fitted", line.lotIn(0, 0), 0);
-        line.takt(1);
-        onLine(line, 0, 3);
-    }
-
-    private static void aCarWaitsForItsImage() {
-        TaktLine line = plainLine(1);
-        line.takt(6);
-        onLine(line, 0, 5);
-        line.takt(7);
-        onLine(line, 0, 5);
-        line.flash(0, line.build(0));
-        line.takt(1);
-        onLine(line, 0, 6);
-        Check.same("one that is not signed moves on, and fails", line.failed(), 1);
-    }
-
     private static void aCarThatWaitsHoldsBackOthers() {
-        TaktLine line = plainLine(8);
+        TaktLine line = Lines.plain(8);
         line.takt(20);
         for (int c = 0; c < 6; c++) {
-            onLine(line, c, 5 - c);
+            Lines.onLine(line, c, 5 - c);
         }
-        at(line, 6, TaktLine.ORDERED, TaktLine.NONE);
-        flashSigned(line, 0);
+        Lines.ordered(line, 6);
+        Lines.flashSigned(line, 0);
         line.takt(1);
         for (int c = 0; c < 7; c++) {
-            onLine(line, c, 6 - c);
+            Lines.onLine(line, c, 6 - c);
         }
-        at(line, 7, TaktLine.ORDERED, TaktLine.NONE);
+        Lines.ordered(line, 7);
     }
 
     private static void lackingAtALowerStationLeadsToTheLane() {
-        TaktLine line = fullLine(2);
+        TaktLine line = Lines.full(2);
         line.takt(4);
-        onLine(line, 0, 3);
-        onLine(line, 1, 2);
+        Lines.onLine(line, 0, 3);
+        Lines.onLine(line, 1, 2);
         line.recall(2);
         line.takt(1);
-        inLane(line, 0, 2);
-        onLine(line, 1, 2);
+        Lines.inLane(line, 0, 2);
+        Lines.onLine(line, 1, 2);
         Check.same("the one at that station has a unit of it still", line.lotIn(1, 2), TaktLine.NONE);
         Check.same("it is scrapped", line.scrapped(), 1);
         Check.same("carAt(3)", line.carAt(3), TaktLine.NONE);
@@ -248,19 +156,19 @@ public final class CarsAndTaktsTest {
     }
 
     private static void lackingHereOrLaterDoesNot() {
-        TaktLine line = fullLine(1);
+        TaktLine line = Lines.full(1);
         line.takt(3);
-        onLine(line, 0, 2);
+        Lines.onLine(line, 0, 2);
         line.recall(2);
         line.recall(3);
         line.lot(2, 9, 1);
         line.takt(1);
-        onLine(line, 0, 2);
+        Lines.onLine(line, 0, 2);
         Check.same("it is fitted anew", line.lotIn(0, 2), 5);
         line.takt(1);
-        onLine(line, 0, 3);
+        Lines.onLine(line, 0, 3);
         line.takt(1);
-        onLine(line, 0, 3);
+        Lines.onLine(line, 0, 3);
         Check.same("none of the kind 3", line.lotIn(0, 3), TaktLine.NONE);
     }
 
@@ -275,230 +183,186 @@ public final class CarsAndTaktsTest {
         line.order(0);
         line.order(0);
         line.takt(6);
-        onLine(line, 0, 5);
-        onLine(line, 1, 4);
+        Lines.onLine(line, 0, 5);
+        Lines.onLine(line, 1, 4);
         line.recall(0);
         line.recall(1);
         line.recall(2);
         line.takt(1);
-        onLine(line, 0, 1);
-        inLane(line, 1, 1);
+        Lines.onLine(line, 0, 1);
+        Lines.inLane(line, 1, 1);
         Check.same("its unit is taken out at 1", line.lotIn(0, 5), TaktLine.NONE);
         Check.same("its unit is not taken out at 1", line.lotIn(0, 9), 2);
     }
 
     private static void aCarMayComeBackInTheSameTakt() {
-        TaktLine line = fullLine(1);
+        TaktLine line = Lines.full(1);
         line.takt(5);
-        onLine(line, 0, 4);
+        Lines.onLine(line, 0, 4);
         line.recall(1);
         line.lot(1, 2, 1);
         line.takt(1);
-        onLine(line, 0, 1);
+        Lines.onLine(line, 0, 1);
         Check.same("it is worked on in the same takt", line.lotIn(0, 1), 5);
         line.takt(3);
-        onLine(line, 0, 4);
-    }
-
-    // The station 1 is taken by a car that waits for a kind that only it needs.
-    private static TaktLine lineWithTheStationOneTaken() {
-        TaktLine line = new TaktLine();
-        line.kind(0, 0, 0, 0, false);
-        line.kind(1, 1, 0, 1, false);
-        line.kind(2, 1, 1, 0, false);
-        line.kind(3, 2, 0, 1, false);
-        line.lot(0, 1, 50);
-        line.lot(1, 1, 50);
-        line.lot(3, 1, 50);
-        line.order(0);
-        line.order(0);
-        line.order(1);
-        line.takt(4);
-        onLine(line, 0, 3);
-        onLine(line, 1, 2);
-        onLine(line, 2, 1);
-        return line;
+        Lines.onLine(line, 0, 4);
     }
 
     private static void theLaneKeepsItsOrder() {
-        TaktLine line = lineWithTheStationOneTaken();
+        TaktLine line = Lines.withTheStationOneTaken();
         line.recall(1);
         line.takt(1);
-        inLane(line, 0, 1);
-        inLane(line, 1, 1);
+        Lines.inLane(line, 0, 1);
+        Lines.inLane(line, 1, 1);
         line.lot(2, 1, 1);
         line.lot(1, 2, 9);
         line.takt(1);
-        onLine(line, 2, 1);
-        inLane(line, 0, 1);
+        Lines.onLine(line, 2, 1);
+        Lines.inLane(line, 0, 1);
         line.takt(1);
-        onLine(line, 2, 2);
-        onLine(line, 0, 1);
-        inLane(line, 1, 1);
+        Lines.onLine(line, 2, 2);
+        Lines.onLine(line, 0, 1);
+        Lines.inLane(line, 1, 1);
         line.takt(1);
-        onLine(line, 0, 2);
-        onLine(line, 1, 1);
-    }
-
-    private static void theLaneLetsOthersPass() {
-        TaktLine line = new TaktLine();
-        line.kind(1, 1, 1, 0, false);
-        line.kind(2, 1, 2, 0, false);
-        line.kind(3, 2, 4, 0, false);
-        line.lot(1, 1, 50);
-        line.lot(3, 1, 50);
-        line.order(1);
-        line.order(4);
-        line.order(2);
-        line.takt(4);
-        line.recall(0);
-        line.takt(1);
-        inLane(line, 0, 1);
-        onLine(line, 1, 3);
-        onLine(line, 2, 1);
-        line.recall(1);
-        line.takt(1);
-        inLane(line, 0, 1);
-        onLine(line, 1, 2);
-        Check.same("the first in the lane keeps its unit", line.lotIn(0, 1), 0);
-        Check.same("the one that passed it does not", line.lotIn(1, 3), TaktLine.NONE);
+        Lines.onLine(line, 0, 2);
+        Lines.onLine(line, 1, 1);
     }
 
     // One that waits for a lower station comes back to the one for which it is in the lane, and goes again.
     private static void laneCarsChangePlaces() {
-        TaktLine line = lineWithTheStationOneTaken();
+        TaktLine line = Lines.withTheStationOneTaken();
         line.recall(1);
         line.takt(1);
         line.order(0);
         line.takt(1);
-        onLine(line, 3, 0);
+        Lines.onLine(line, 3, 0);
         line.recall(0);
         line.takt(1);
-        onLine(line, 0, 1);
-        inLane(line, 1, 1);
-        inLane(line, 2, 0);
-        onLine(line, 3, 0);
+        Lines.onLine(line, 0, 1);
+        Lines.inLane(line, 1, 1);
+        Lines.inLane(line, 2, 0);
+        Lines.onLine(line, 3, 0);
         line.lot(0, 1, 50);
         line.takt(1);
-        inLane(line, 0, 0);
-        onLine(line, 1, 1);
-        inLane(line, 2, 0);
-        onLine(line, 3, 0);
+        Lines.inLane(line, 0, 0);
+        Lines.onLine(line, 1, 1);
+        Lines.inLane(line, 2, 0);
+        Lines.onLine(line, 3, 0);
         line.takt(1);
-        inLane(line, 0, 0);
-        inLane(line, 1, 0);
-        onLine(line, 2, 0);
-        onLine(line, 3, 1);
+        Lines.inLane(line, 0, 0);
+        Lines.inLane(line, 1, 0);
+        Lines.onLine(line, 2, 0);
+        Lines.onLine(line, 3, 1);
     }
 
     private static void theLaneGoesAheadOfOrders() {
-        TaktLine line = plainLine(3);
+        TaktLine line = Lines.plain(3);
         line.takt(3);
-        onLine(line, 2, 0);
+        Lines.onLine(line, 2, 0);
         line.order(0);
         line.recall(0);
         line.lot(0, 2, 50);
         line.takt(1);
-        inLane(line, 0, 0);
-        inLane(line, 1, 0);
-        onLine(line, 2, 0);
+        Lines.inLane(line, 0, 0);
+        Lines.inLane(line, 1, 0);
+        Lines.onLine(line, 2, 0);
         Check.same("the one at the station 0 is fitted anew", line.lotIn(2, 0), 1);
         line.takt(1);
-        onLine(line, 0, 0);
-        onLine(line, 2, 1);
+        Lines.onLine(line, 0, 0);
+        Lines.onLine(line, 2, 1);
         line.takt(1);
-        onLine(line, 1, 0);
-        at(line, 3, TaktLine.ORDERED, TaktLine.NONE);
+        Lines.onLine(line, 1, 0);
+        Lines.ordered(line, 3);
         line.takt(1);
-        onLine(line, 3, 0);
+        Lines.onLine(line, 3, 0);
     }
 
     // In the lane a car keeps the station for which it came into it.
     private static void laneThenLowerStation() {
-        TaktLine line = fullLine(2);
+        TaktLine line = Lines.full(2);
         line.takt(4);
         line.recall(2);
         line.takt(1);
-        inLane(line, 0, 2);
+        Lines.inLane(line, 0, 2);
         line.recall(1);
         line.takt(1);
-        onLine(line, 1, 1);
-        onLine(line, 0, 2);
+        Lines.onLine(line, 1, 1);
+        Lines.onLine(line, 0, 2);
         line.takt(1);
-        inLane(line, 0, 1);
+        Lines.inLane(line, 0, 1);
         line.lot(1, 1, 9);
         line.takt(2);
-        onLine(line, 1, 2);
-        onLine(line, 0, 1);
+        Lines.onLine(line, 1, 2);
+        Lines.onLine(line, 0, 1);
     }
 
     private static void aFailedTestSendsBack() {
-        TaktLine line = plainLine(2);
+        TaktLine line = Lines.plain(2);
         line.takt(6);
         line.flash(0, line.build(0));
         line.takt(1);
-        onLine(line, 0, 6);
-        onLine(line, 1, 5);
+        Lines.onLine(line, 0, 6);
+        Lines.onLine(line, 1, 5);
         Check.same("it failed", line.failed(), 1);
         line.takt(1);
-        inLane(line, 0, 5);
+        Lines.inLane(line, 0, 5);
         Check.same("not tested", line.isTested(0), false);
         Check.same("it is tested no second time", line.failed(), 1);
         line.flash(1, 0);
         line.sign(0, 0);
         line.takt(1);
-        onLine(line, 1, 6);
-        onLine(line, 0, 5);
+        Lines.onLine(line, 1, 6);
+        Lines.onLine(line, 0, 5);
         Check.same("the second failed", line.failed(), 2);
         line.takt(1);
-        onLine(line, 0, 6);
-        onLine(line, 1, 5);
+        Lines.onLine(line, 0, 6);
+        Lines.onLine(line, 1, 5);
         Check.same("the first passes", line.isTested(0), true);
         Check.same("failed", line.failed(), 2);
     }
 
     private static void untestedAtTheLastStationSendsBack() {
-        TaktLine line = plainLine(1);
+        TaktLine line = Lines.plain(1);
         line.takt(6);
-        flashSigned(line, 0);
+        Lines.flashSigned(line, 0);
         line.takt(2);
-        onLine(line, 0, 7);
+        Lines.onLine(line, 0, 7);
         line.flash(0, 0);
         Check.same("none leaves", line.takt(1), 0);
-        onLine(line, 0, 5);
+        Lines.onLine(line, 0, 5);
         Check.same("none leaves", line.takt(2), 0);
-        onLine(line, 0, 7);
+        Lines.onLine(line, 0, 7);
         Check.same("it leaves", line.takt(1), 1);
     }
 
     private static void aTestedCarWaitsAtSix() {
-        TaktLine line = plainLine(1);
+        TaktLine line = Lines.plain(1);
         line.takt(6);
-        flashSigned(line, 0);
+        Lines.flashSigned(line, 0);
         line.takt(1);
         line.flash(0, 0);
         Check.same("not tested", line.isTested(0), false);
         line.takt(1);
-        onLine(line, 0, 6);
+        Lines.onLine(line, 0, 6);
         Check.same("tested again there", line.isTested(0), true);
         line.fault(0);
         line.takt(1);
-        onLine(line, 0, 7);
+        Lines.onLine(line, 0, 7);
         Check.same("a fault fails no test that is not made", line.failed(), 0);
         Check.same("it leaves", line.takt(1), 1);
     }
 
     private static void faultIsUsedUp() {
-        TaktLine line = plainLine(1);
+        TaktLine line = Lines.plain(1);
         line.takt(6);
-        flashSigned(line, 0);
+        Lines.flashSigned(line, 0);
         Check.same("fault", line.fault(0), true);
         Check.same("fault again", line.fault(0), false);
         line.takt(1);
         Check.same("its test failed", line.failed(), 1);
         Check.same("it is fit still", line.isFit(0), true);
         line.takt(1);
-        onLine(line, 0, 5);
+        Lines.onLine(line, 0, 5);
         line.takt(1);
         Check.same("its next test does not", line.failed(), 1);
         Check.same("tested", line.isTested(0), true);
@@ -506,7 +370,7 @@ public final class CarsAndTaktsTest {
     }
 
     private static void faultIsUsedUpByATestThatFailsAnyway() {
-        TaktLine line = plainLine(1);
+        TaktLine line = Lines.plain(1);
         line.takt(6);
         int image = line.build(0);
         line.flash(0, image);
@@ -520,23 +384,23 @@ public final class CarsAndTaktsTest {
     }
 
     private static void faultBeforeTheLine() {
-        TaktLine line = plainLine(1);
+        TaktLine line = Lines.plain(1);
         Check.same("fault of an ordered car", line.fault(0), true);
         line.takt(6);
         Check.same("fault is kept", line.fault(0), false);
-        flashSigned(line, 0);
+        Lines.flashSigned(line, 0);
         Check.same("flash uses no fault up", line.fault(0), false);
         line.takt(1);
         Check.same("failed", line.failed(), 1);
     }
 
     private static void faultRefuses() {
-        TaktLine line = plainLine(1);
-        for (int car : new int[] {-1, 1, 30, MIN, MAX}) {
+        TaktLine line = Lines.plain(1);
+        for (int car : new int[] {-1, 1, 30, Lines.MIN, Lines.MAX}) {
             Check.refusesIndex("fault " + car, line, () -> line.fault(car));
         }
         line.takt(6);
-        flashSigned(line, 0);
+        Lines.flashSigned(line, 0);
         line.takt(2);
         Check.same("fault at the station 7", line.fault(0), true);
         Check.same("it leaves all the same", line.takt(1), 1);
@@ -544,29 +408,29 @@ public final class CarsAndTaktsTest {
     }
 
     private static void whereIsAndStationOf() {
-        TaktLine line = plainLine(2);
-        at(line, 0, TaktLine.ORDERED, TaktLine.NONE);
+        TaktLine line = Lines.plain(2);
+        Lines.ordered(line, 0);
         line.takt(2);
-        onLine(line, 0, 1);
-        onLine(line, 1, 0);
+        Lines.onLine(line, 0, 1);
+        Lines.onLine(line, 1, 0);
         line.recall(0);
         line.takt(1);
-        inLane(line, 0, 0);
-        onLine(line, 1, 0);
+        Lines.inLane(line, 0, 0);
+        Lines.onLine(line, 1, 0);
         Check.same("carAt(1)", line.carAt(1), TaktLine.NONE);
     }
 
     private static void questionsRefuse() {
-        TaktLine line = plainLine(0);
+        TaktLine line = Lines.plain(0);
         Check.refusesIndex("whereIs with no car", line, () -> line.whereIs(0));
         Check.refusesIndex("stationOf with no car", line, () -> line.stationOf(0));
         Check.refusesIndex("fault with no car", line, () -> line.fault(0));
         line.order(0);
-        for (int car : new int[] {-1, 1, 30, MIN, MAX}) {
+        for (int car : new int[] {-1, 1, 30, Lines.MIN, Lines.MAX}) {
             Check.refusesIndex("whereIs " + car, line, () -> line.whereIs(car));
             Check.refusesIndex("stationOf " + car, line, () -> line.stationOf(car));
         }
-        for (int station : new int[] {-1, 8, MIN, MAX}) {
+        for (int station : new int[] {-1, 8, Lines.MIN, Lines.MAX}) {
             Check.refusesArgument("carAt " + station, line, () -> line.carAt(station));
         }
         Check.same("carAt(0)", line.carAt(0), TaktLine.NONE);

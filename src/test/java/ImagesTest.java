@@ -1,8 +1,5 @@
 /** Promises 18 to 27: build, sign, flash, imageOf, versionIn, images, isFit, isTested, failed, atLarge. */
 public final class ImagesTest {
-    private static final int MIN = Integer.MIN_VALUE;
-    private static final int MAX = Integer.MAX_VALUE;
-
     public static void main(String[] args) {
         buildTakesWhatIsIn();
         buildFindsTheSame();
@@ -29,27 +26,6 @@ public final class ImagesTest {
         Check.end();
     }
 
-    /** Kinds 0 (station 0) and 1 (station 1) have software, kind 2 (station 2) has none; all cars need all. */
-    private static TaktLine softLine(int cars) {
-        TaktLine line = new TaktLine();
-        line.kind(0, 0, 0, 0, true);
-        line.kind(1, 1, 0, 0, true);
-        line.kind(2, 2, 0, 0, false);
-        line.lot(0, 11, 50);
-        line.lot(1, 22, 50);
-        line.lot(2, 33, 50);
-        for (int c = 0; c < cars; c++) {
-            line.order(0);
-        }
-        return line;
-    }
-
-    private static void flashSigned(TaktLine line, int car) {
-        int image = line.build(car);
-        line.sign(image, car);
-        line.flash(car, image);
-    }
-
     private static void versions(TaktLine line, int image, int first, int second) {
         Check.same("versionIn(" + image + ", 0)", line.versionIn(image, 0), first);
         Check.same("versionIn(" + image + ", 1)", line.versionIn(image, 1), second);
@@ -59,7 +35,7 @@ public final class ImagesTest {
     }
 
     private static void buildTakesWhatIsIn() {
-        TaktLine line = softLine(1);
+        TaktLine line = Lines.soft(1);
         Check.same("build for a car with nothing in it", line.build(0), 0);
         versions(line, 0, 0, 0);
         line.takt(1);
@@ -75,7 +51,7 @@ public final class ImagesTest {
     }
 
     private static void buildFindsTheSame() {
-        TaktLine line = softLine(3);
+        TaktLine line = Lines.soft(3);
         line.takt(3);
         Check.same("build for the third", line.build(2), 0);
         Check.same("build for the first", line.build(0), 1);
@@ -113,7 +89,7 @@ public final class ImagesTest {
     }
 
     private static void buildCountsRecalledUnits() {
-        TaktLine line = softLine(1);
+        TaktLine line = Lines.soft(1);
         line.takt(1);
         line.recall(0);
         Check.same("build with a recalled unit", line.build(0), 0);
@@ -149,16 +125,16 @@ public final class ImagesTest {
     }
 
     private static void buildRefuses() {
-        TaktLine line = softLine(0);
+        TaktLine line = Lines.soft(0);
         Check.refusesIndex("build with no car", line, () -> line.build(0));
         line.order(0);
-        for (int car : new int[] {-1, 1, 30, MIN, MAX}) {
+        for (int car : new int[] {-1, 1, 30, Lines.MIN, Lines.MAX}) {
             Check.refusesIndex("build " + car, line, () -> line.build(car));
         }
     }
 
     private static void signIsForOneCar() {
-        TaktLine line = softLine(0);
+        TaktLine line = Lines.soft(0);
         for (int c = 0; c < 30; c++) {
             line.order(0);
         }
@@ -176,10 +152,10 @@ public final class ImagesTest {
     }
 
     private static void signRefuses() {
-        TaktLine line = softLine(2);
+        TaktLine line = Lines.soft(2);
         Check.refusesIndex("sign with no image", line, () -> line.sign(0, 0));
         line.build(0);
-        for (int bad : new int[] {-1, 2, 30, 40, MIN, MAX}) {
+        for (int bad : new int[] {-1, 2, 30, 40, Lines.MIN, Lines.MAX}) {
             Check.refusesIndex("sign, car " + bad, line, () -> line.sign(0, bad));
             Check.refusesIndex("sign, image " + bad, line, () -> line.sign(bad, 0));
             Check.refusesIndex("sign, both " + bad, line, () -> line.sign(bad, bad));
@@ -190,7 +166,7 @@ public final class ImagesTest {
     }
 
     private static void flashGivesTheImageBefore() {
-        TaktLine line = softLine(1);
+        TaktLine line = Lines.soft(1);
         line.build(0);
         line.takt(6);
         line.build(0);
@@ -203,7 +179,7 @@ public final class ImagesTest {
     }
 
     private static void flashAtWhichStations() {
-        TaktLine line = softLine(2);
+        TaktLine line = Lines.soft(2);
         line.build(0);
         Check.refusesState("flash of an ordered car", line, () -> line.flash(0, 0));
         for (int s = 0; s < 5; s++) {
@@ -217,7 +193,7 @@ public final class ImagesTest {
         line.takt(1);
         Check.same("in the lane for the station 5", line.whereIs(0), TaktLine.LANE);
         Check.refusesState("flash in the lane", line, () -> line.flash(0, 0));
-        flashSigned(line, 1);
+        Lines.flashSigned(line, 1);
         line.takt(1);
         Check.same("flash at the station 6", line.flash(1, 1), 1);
         Check.same("flash at the station 5", line.flash(0, 1), 0);
@@ -227,9 +203,9 @@ public final class ImagesTest {
     }
 
     private static void flashEndsTheTest() {
-        TaktLine line = softLine(1);
+        TaktLine line = Lines.soft(1);
         line.takt(6);
-        flashSigned(line, 0);
+        Lines.flashSigned(line, 0);
         line.takt(1);
         Check.same("tested", line.isTested(0), true);
         line.flash(0, 0);
@@ -242,7 +218,7 @@ public final class ImagesTest {
     }
 
     private static void flashForgetsATestThatFailed() {
-        TaktLine line = softLine(1);
+        TaktLine line = Lines.soft(1);
         line.takt(6);
         int image = line.build(0);
         line.flash(0, image);
@@ -262,36 +238,36 @@ public final class ImagesTest {
     }
 
     private static void flashRefuses() {
-        TaktLine line = softLine(2);
+        TaktLine line = Lines.soft(2);
         Check.refusesIndex("flash with no image", line, () -> line.flash(0, 0));
         line.takt(6);
         line.build(0);
-        for (int bad : new int[] {-1, 2, 30, 40, MIN, MAX}) {
+        for (int bad : new int[] {-1, 2, 30, 40, Lines.MIN, Lines.MAX}) {
             Check.refusesIndex("flash, car " + bad, line, () -> line.flash(bad, 0));
             Check.refusesIndex("flash, image " + bad, line, () -> line.flash(0, bad));
             Check.refusesIndex("flash of a car at 4, image " + bad, line, () -> line.flash(1, bad));
         }
         Check.refusesState("flash at the station 4", line, () -> line.flash(1, 0));
-        flashSigned(line, 0);
+        Lines.flashSigned(line, 0);
         line.takt(3);
         Check.same("it left", line.whereIs(0), TaktLine.LEFT);
         Check.refusesState("flash of a car that left", line, () -> line.flash(0, 0));
     }
 
     private static void versionInRefuses() {
-        TaktLine line = softLine(1);
+        TaktLine line = Lines.soft(1);
         Check.refusesIndex("versionIn with no image", line, () -> line.versionIn(0, 0));
         line.build(0);
-        for (int image : new int[] {-1, 1, 40, MIN, MAX}) {
+        for (int image : new int[] {-1, 1, 40, Lines.MIN, Lines.MAX}) {
             Check.refusesIndex("versionIn, image " + image, line, () -> line.versionIn(image, 0));
         }
-        for (int kind : new int[] {-1, 10, MIN, MAX}) {
+        for (int kind : new int[] {-1, 10, Lines.MIN, Lines.MAX}) {
             Check.refusesIndex("versionIn, kind " + kind, line, () -> line.versionIn(0, kind));
         }
     }
 
     private static void fitNeedsAllOfIt() {
-        TaktLine line = softLine(2);
+        TaktLine line = Lines.soft(2);
         line.takt(6);
         int image = line.build(0);
         Check.same("fit without an image", line.isFit(0), false);
@@ -307,9 +283,9 @@ public final class ImagesTest {
     }
 
     private static void fitLooksAtSoftwareAlone() {
-        TaktLine line = softLine(1);
+        TaktLine line = Lines.soft(1);
         line.takt(6);
-        flashSigned(line, 0);
+        Lines.flashSigned(line, 0);
         line.recall(2);
         Check.same("lacks", line.lacks(0), 4);
         Check.same("fit with a kind without software lacking", line.isFit(0), true);
@@ -317,9 +293,9 @@ public final class ImagesTest {
 
     // A fit car that lacks a kind without software would pass a test, but goes back before it moves on.
     private static void theTestLooksAtFitAlone() {
-        TaktLine line = softLine(1);
+        TaktLine line = Lines.soft(1);
         line.takt(6);
-        flashSigned(line, 0);
+        Lines.flashSigned(line, 0);
         line.takt(2);
         Check.same("at the station 7", line.stationOf(0), 7);
         line.recall(2);
@@ -331,9 +307,9 @@ public final class ImagesTest {
     }
 
     private static void theImageMustBeForWhatIsInNow() {
-        TaktLine line = softLine(1);
+        TaktLine line = Lines.soft(1);
         line.takt(6);
-        flashSigned(line, 0);
+        Lines.flashSigned(line, 0);
         line.recall(0);
         line.lot(0, 12, 9);
         line.takt(1);
@@ -343,7 +319,7 @@ public final class ImagesTest {
         line.takt(6);
         Check.same("its image lets it move on, and fail", line.failed(), 1);
         Check.same("at the station 6", line.stationOf(0), 6);
-        flashSigned(line, 0);
+        Lines.flashSigned(line, 0);
         Check.same("fit with the next image", line.isFit(0), true);
         versions(line, 1, 12, 22);
         line.recall(3);
@@ -363,7 +339,7 @@ public final class ImagesTest {
         line.takt(6);
         Check.same("at the station 5", line.stationOf(0), 5);
         Check.same("not tested there", line.isTested(0), false);
-        flashSigned(line, 0);
+        Lines.flashSigned(line, 0);
         Check.same("fit with an image for nothing", line.isFit(0), true);
         Check.same("not tested by being fit", line.isTested(0), false);
         line.takt(1);
@@ -372,9 +348,9 @@ public final class ImagesTest {
     }
 
     private static void aCarThatLeftCanBeUnfit() {
-        TaktLine line = softLine(1);
+        TaktLine line = Lines.soft(1);
         line.takt(6);
-        flashSigned(line, 0);
+        Lines.flashSigned(line, 0);
         Check.same("it leaves", line.takt(3), 1);
         Check.same("fit", line.isFit(0), true);
         Check.same("tested", line.isTested(0), true);
@@ -386,11 +362,11 @@ public final class ImagesTest {
     }
 
     private static void atLargeCountsCarsOnce() {
-        TaktLine line = softLine(3);
+        TaktLine line = Lines.soft(3);
         line.takt(6);
-        flashSigned(line, 0);
+        Lines.flashSigned(line, 0);
         line.takt(1);
-        flashSigned(line, 1);
+        Lines.flashSigned(line, 1);
         line.takt(2);
         Check.same("one has left", line.whereIs(0), TaktLine.LEFT);
         Check.same("atLarge with no recall", line.atLarge(), 0);
@@ -404,12 +380,12 @@ public final class ImagesTest {
     }
 
     private static void questionsRefuse() {
-        TaktLine line = softLine(0);
+        TaktLine line = Lines.soft(0);
         Check.refusesIndex("imageOf with no car", line, () -> line.imageOf(0));
         Check.refusesIndex("isFit with no car", line, () -> line.isFit(0));
         Check.refusesIndex("isTested with no car", line, () -> line.isTested(0));
         line.order(0);
-        for (int car : new int[] {-1, 1, 30, MIN, MAX}) {
+        for (int car : new int[] {-1, 1, 30, Lines.MIN, Lines.MAX}) {
             Check.refusesIndex("imageOf " + car, line, () -> line.imageOf(car));
             Check.refusesIndex("isFit " + car, line, () -> line.isFit(car));
             Check.refusesIndex("isTested " + car, line, () -> line.isTested(car));

@@ -1,8 +1,5 @@
 /** Promises 1 to 5: a new object, kind, lot, recall, units. */
 public final class KindsAndLotsTest {
-    private static final int MIN = Integer.MIN_VALUE;
-    private static final int MAX = Integer.MAX_VALUE;
-
     public static void main(String[] args) {
         newObject();
         kindsAtFirst();
@@ -96,13 +93,13 @@ public final class KindsAndLotsTest {
 
     private static void kindRefuses() {
         TaktLine line = new TaktLine();
-        for (int kind : new int[] {-1, 10, MIN, MAX}) {
+        for (int kind : new int[] {-1, 10, Lines.MIN, Lines.MAX}) {
             Check.refusesIndex("kind " + kind, line, () -> line.kind(kind, 0, 0, 0, true));
         }
-        for (int station : new int[] {-1, 5, 7, MIN, MAX}) {
+        for (int station : new int[] {-1, 5, 7, Lines.MIN, Lines.MAX}) {
             Check.refusesArgument("kind, station " + station, line, () -> line.kind(0, station, 0, 0, true));
         }
-        for (int set : new int[] {-1, 256, MIN, MAX}) {
+        for (int set : new int[] {-1, 256, Lines.MIN, Lines.MAX}) {
             Check.refusesArgument("kind, with " + set, line, () -> line.kind(0, 0, set, 0, true));
             Check.refusesArgument("kind, without " + set, line, () -> line.kind(0, 0, 0, set, true));
         }
@@ -136,14 +133,14 @@ public final class KindsAndLotsTest {
 
     private static void lotRefuses() {
         TaktLine line = new TaktLine();
-        for (int kind : new int[] {-1, 10, MIN, MAX}) {
+        for (int kind : new int[] {-1, 10, Lines.MIN, Lines.MAX}) {
             Check.refusesIndex("lot, kind " + kind, line, () -> line.lot(kind, 1, 1));
             Check.refusesIndex("lot, all", line, () -> line.lot(kind, 0, 0));
         }
-        for (int version : new int[] {-1, 0, 100, MIN, MAX}) {
+        for (int version : new int[] {-1, 0, 100, Lines.MIN, Lines.MAX}) {
             Check.refusesArgument("lot, version " + version, line, () -> line.lot(0, version, 1));
         }
-        for (int units : new int[] {-1, 0, 51, MIN, MAX}) {
+        for (int units : new int[] {-1, 0, 51, Lines.MIN, Lines.MAX}) {
             Check.refusesArgument("lot, units " + units, line, () -> line.lot(0, 1, units));
         }
         Check.same("the first lot after them", line.lot(0, 1, 1), 0);
@@ -201,7 +198,7 @@ public final class KindsAndLotsTest {
         TaktLine line = new TaktLine();
         Check.refusesIndex("recall with no lot", line, () -> line.recall(0));
         line.lot(0, 1, 1);
-        for (int lot : new int[] {-1, 1, 40, MIN, MAX}) {
+        for (int lot : new int[] {-1, 1, 40, Lines.MIN, Lines.MAX}) {
             Check.refusesIndex("recall " + lot, line, () -> line.recall(lot));
         }
         Check.same("recall", line.recall(0), 0);
@@ -235,7 +232,7 @@ public final class KindsAndLotsTest {
         TaktLine line = new TaktLine();
         Check.refusesIndex("units with no lot", line, () -> line.units(0));
         line.lot(0, 1, 1);
-        for (int lot : new int[] {-1, 1, 40, MIN, MAX}) {
+        for (int lot : new int[] {-1, 1, 40, Lines.MIN, Lines.MAX}) {
             Check.refusesIndex("units " + lot, line, () -> line.units(lot));
         }
     }

@@ -1,8 +1,5 @@
 /** Promises 13 to 17: needs, lacks, lotIn, lotByPicks, scrapped. */
 public final class PartsInCarsTest {
-    private static final int MIN = Integer.MIN_VALUE;
-    private static final int MAX = Integer.MAX_VALUE;
-
     public static void main(String[] args) {
         needsStaysTheSame();
         lacksFollowsTheUnits();
@@ -18,17 +15,6 @@ public final class PartsInCarsTest {
         carsThatLeftKeepTheirUnits();
         questionsRefuse();
         Check.end();
-    }
-
-    private static void lots(TaktLine line, int car, int kind, int due) {
-        Check.same("lotIn(" + car + ", " + kind + ")", line.lotIn(car, kind), due);
-        Check.same("lotByPicks(" + car + ", " + kind + ")", line.lotByPicks(car, kind), due);
-    }
-
-    private static void flashSigned(TaktLine line, int car) {
-        int image = line.build(car);
-        line.sign(image, car);
-        line.flash(car, image);
     }
 
     private static void needsStaysTheSame() {
@@ -72,9 +58,9 @@ public final class PartsInCarsTest {
         line.order(0);
         line.order(1);
         line.takt(4);
-        lots(line, 0, 0, TaktLine.NONE);
-        lots(line, 0, 5, TaktLine.NONE);
-        lots(line, 1, 0, 0);
+        Lines.lots(line, 0, 0, TaktLine.NONE);
+        Lines.lots(line, 0, 5, TaktLine.NONE);
+        Lines.lots(line, 1, 0, 0);
         Check.same("units", line.units(0), 1);
         Check.same("units", line.units(1), 2);
         line.recall(0);
@@ -92,11 +78,11 @@ public final class PartsInCarsTest {
             line.order(0);
         }
         line.takt(2);
-        lots(line, 0, 2, 1);
-        lots(line, 1, 2, 2);
+        Lines.lots(line, 0, 2, 1);
+        Lines.lots(line, 1, 2, 2);
         line.recall(2);
         line.takt(1);
-        lots(line, 1, 2, 3);
+        Lines.lots(line, 1, 2, 3);
         Check.same("a recalled lot is not picked", line.units(2), 1);
         Check.same("units", line.units(3), 8);
     }
@@ -110,8 +96,8 @@ public final class PartsInCarsTest {
         line.lot(0, 1, 1);
         line.order(0);
         line.takt(1);
-        lots(line, 0, 9, 0);
-        lots(line, 0, 0, 1);
+        Lines.lots(line, 0, 9, 0);
+        Lines.lots(line, 0, 0, 1);
     }
 
     private static void aRecalledUnitIsReplaced() {
@@ -122,10 +108,10 @@ public final class PartsInCarsTest {
         line.order(0);
         line.takt(3);
         line.recall(0);
-        lots(line, 0, 0, 0);
+        Lines.lots(line, 0, 0, 0);
         Check.same("scrapped before the takt", line.scrapped(), 0);
         line.takt(1);
-        lots(line, 0, 0, 1);
+        Lines.lots(line, 0, 0, 1);
         Check.same("scrapped", line.scrapped(), 1);
         Check.same("units of the recalled lot", line.units(0), 2);
         Check.same("units of the other lot", line.units(1), 2);
@@ -140,14 +126,14 @@ public final class PartsInCarsTest {
         line.takt(1);
         line.recall(0);
         line.takt(1);
-        lots(line, 0, 0, TaktLine.NONE);
+        Lines.lots(line, 0, 0, TaktLine.NONE);
         Check.same("scrapped", line.scrapped(), 1);
         line.takt(5);
         Check.same("it is scrapped once", line.scrapped(), 1);
         Check.same("lacks", line.lacks(0), 1);
         line.lot(0, 1, 1);
         line.takt(1);
-        lots(line, 0, 0, 1);
+        Lines.lots(line, 0, 0, 1);
         Check.same("scrapped", line.scrapped(), 1);
     }
 
@@ -157,7 +143,7 @@ public final class PartsInCarsTest {
         line.lot(0, 1, 3);
         line.order(0);
         line.takt(6);
-        flashSigned(line, 0);
+        Lines.flashSigned(line, 0);
         line.takt(2);
         Check.same("tested at the station 7", line.isTested(0), true);
         return line;
@@ -181,7 +167,7 @@ public final class PartsInCarsTest {
         TaktLine line = lineWithATestedCar();
         line.recall(0);
         line.takt(1);
-        lots(line, 0, 0, TaktLine.NONE);
+        Lines.lots(line, 0, 0, TaktLine.NONE);
         Check.same("not tested without the unit", line.isTested(0), false);
     }
 
@@ -195,7 +181,7 @@ public final class PartsInCarsTest {
         for (int s = 0; s < 5; s++) {
             line.takt(1);
             for (int k = 0; k < 10; k++) {
-                lots(line, 0, k, k % 5 <= s ? k : TaktLine.NONE);
+                Lines.lots(line, 0, k, k % 5 <= s ? k : TaktLine.NONE);
             }
         }
     }
@@ -210,11 +196,11 @@ public final class PartsInCarsTest {
         for (int l = 1; l < 40; l++) {
             line.lot(0, 1, 1);
             line.takt(1);
-            lots(line, 0, 0, l);
-            lots(line, 0, 1, 0);
+            Lines.lots(line, 0, 0, l);
+            Lines.lots(line, 0, 1, 0);
             line.recall(l);
             line.takt(1);
-            lots(line, 0, 0, TaktLine.NONE);
+            Lines.lots(line, 0, 0, TaktLine.NONE);
             Check.same("scrapped", line.scrapped(), l);
         }
     }
@@ -225,11 +211,11 @@ public final class PartsInCarsTest {
         line.lot(0, 1, 3);
         line.order(0);
         line.takt(6);
-        flashSigned(line, 0);
+        Lines.flashSigned(line, 0);
         line.takt(3);
         line.recall(0);
         line.takt(20);
-        lots(line, 0, 0, 0);
+        Lines.lots(line, 0, 0, 0);
         Check.same("lacks of a car that left", line.lacks(0), 1);
         Check.same("needs of a car that left", line.needs(0), 1);
         Check.same("scrapped", line.scrapped(), 0);
@@ -242,16 +228,16 @@ public final class PartsInCarsTest {
         Check.refusesIndex("lotIn with no car", line, () -> line.lotIn(0, 0));
         Check.refusesIndex("lotByPicks with no car", line, () -> line.lotByPicks(0, 0));
         line.order(0);
-        for (int car : new int[] {-1, 1, 30, MIN, MAX}) {
+        for (int car : new int[] {-1, 1, 30, Lines.MIN, Lines.MAX}) {
             Check.refusesIndex("needs " + car, line, () -> line.needs(car));
             Check.refusesIndex("lacks " + car, line, () -> line.lacks(car));
             Check.refusesIndex("lotIn of " + car, line, () -> line.lotIn(car, 0));
             Check.refusesIndex("lotByPicks of " + car, line, () -> line.lotByPicks(car, 0));
         }
-        for (int kind : new int[] {-1, 10, MIN, MAX}) {
+        for (int kind : new int[] {-1, 10, Lines.MIN, Lines.MAX}) {
             Check.refusesIndex("lotIn, kind " + kind, line, () -> line.lotIn(0, kind));
             Check.refusesIndex("lotByPicks, kind " + kind, line, () -> line.lotByPicks(0, kind));
         }
-        lots(line, 0, 9, TaktLine.NONE);
+        Lines.lots(line, 0, 9, TaktLine.NONE);
     }
 }
