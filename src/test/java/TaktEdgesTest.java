@@ -1,4 +1,7 @@
-/** "A takt", clause by clause: each has a test of its own where it holds, where it just does not, and where nothing is there. */
+/**
+ * "A takt", clause by clause: each has a test of its own where it holds, where it just does not, and where nothing is
+ * there.
+ */
 public final class TaktEdgesTest {
     public static void main(String[] args) {
         firstBackToTheLane();
